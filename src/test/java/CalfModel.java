@@ -245,6 +245,17 @@ final class CalfModel {
         return what == 0 ? l.yard : l.who < 0 ? NONE : l.who;
     }
 
+    /** Where it may be behind n minutes, fed at random: the same for the same seed. */
+    int roamed(long seed, int n, boolean fromNow) {
+        java.util.Random random = new java.util.Random(seed);
+        Calf c = fromNow ? now : beginning();
+        for (int k = 0; k < n; k++) {
+            List<Integer> all = feeders(c);
+            c = behind(c, all.get(random.nextInt(all.size())));
+        }
+        return c.yard;
+    }
+
     // ---- goals
 
     int goal(int y, int m) {

@@ -10,6 +10,7 @@ public final class ModelTest {
     private FollowingCalf x;
     private CalfModel model;
     private String run;
+    private long roaming;
 
     public static void main(String[] args) {
         ModelTest test = new ModelTest();
@@ -66,7 +67,11 @@ public final class ModelTest {
             yards = 2 + below(7);
             text.append('y').append(yards).append(';');
         }
-        int lanes = below(2 * yards);
+        boolean ring = below(3) > 0;
+        for (int a = 0; ring && a < yards; a++) {
+            text.append('l').append(a).append(',').append((a + 1) % yards).append(';');
+        }
+        int lanes = below(ring ? 3 : 2 * yards);
         for (int i = 0; i < lanes; i++) {
             int a = below(yards);
             int b = (a + 1 + below(yards - 1)) % yards;
@@ -92,8 +97,11 @@ public final class ModelTest {
         StringBuilder way = new StringBuilder();
         int length = 1 + below(12);
         int narrow = 1 + below(yards);
+        boolean walks = below(3) > 0;
+        int at = below(2) * below(yards);
         for (int i = 0; i < length; i++) {
-            way.append(below(narrow));
+            at = walks ? (at + below(3) + yards - 1) % yards : below(narrow);
+            way.append(at);
         }
         return way.toString();
     }
@@ -122,7 +130,7 @@ public final class ModelTest {
                 return calls + 1;
             }
             case 1, 2, 3, 4, 5, 6, 7, 8, 9 -> {
-                int i = below(7) - 1;
+                int i = anyPerson();
                 due("feed(" + i + ")", x.feed(i), model.feed(i));
             }
             case 10, 11, 12, 13, 14, 15 -> {
@@ -136,23 +144,29 @@ public final class ModelTest {
                 due("calf(" + n + ", " + what + ")", x.calf(n, what), model.calf(n, what));
             }
             case 21, 22, 23, 24 -> {
-                int y = anyYard();
                 int m = below(3) == 0 ? below(43) - 1 : below(9);
+                int y = below(4) == 0 ? anyYard() : model.roamed(roaming, m, true);
                 due("goal(" + y + ", " + m + ")", x.goal(y, m), model.goal(y, m));
                 askForGoals();
                 return 4;
             }
-            case 25, 26 -> due("noGoals()", x.noGoals(), model.noGoals());
+            case 25, 26 -> {
+                due("noGoals()", x.noGoals(), model.noGoals());
+                roaming = random.nextLong();
+            }
             case 27, 28, 29 -> askForGoals();
             case 30, 31, 32, 33, 34, 35 -> playGame();
             case 36, 37, 38, 39 -> {
-                int y = anyYard();
                 int m = below(3) == 0 ? below(23) - 1 : below(9);
+                int y = below(4) == 0 ? anyYard() : model.roamed(roaming, m, false);
                 due("seen(" + y + ", " + m + ")", x.seen(y, m), model.seen(y, m));
                 askForSights();
                 return 3;
             }
-            case 40, 41 -> due("forget()", x.forget(), model.forget());
+            case 40, 41 -> {
+                due("forget()", x.forget(), model.forget());
+                roaming = random.nextLong();
+            }
             case 42, 43 -> askForSights();
             case 44, 45, 46 -> {
                 int y = anyYard();
@@ -174,7 +188,7 @@ public final class ModelTest {
                 due("far(" + a + ", " + b + ")", x.far(a, b), model.far(a, b));
             }
             case 55, 56 -> {
-                int i = below(7) - 1;
+                int i = anyPerson();
                 int what = below(3) == 0 ? -1 : below(10003) - 2;
                 due("person(" + i + ", " + what + ")", x.person(i, what), model.person(i, what));
             }
@@ -190,6 +204,10 @@ public final class ModelTest {
         return below(12) == 0 ? below(11) - 1 : below(Math.max(1, model.count(0)));
     }
 
+    private int anyPerson() {
+        return below(12) == 0 ? below(7) - 1 : below(Math.max(1, model.count(1)));
+    }
+
     private void askForGoals() {
         due("price()", x.price(), model.price());
         due("first()", x.first(), model.first());
@@ -198,13 +216,13 @@ public final class ModelTest {
 
     private void askForSights() {
         due("how()", x.how(), model.how());
-        int i = below(7) - 1;
+        int i = anyPerson();
         due("sure(" + i + ")", x.sure(i), model.sure(i));
     }
 
     private void playGame() {
         int n = below(20) == 0 ? 13 * below(2) : 1 + below(12);
-        int y = anyYard();
+        int y = below(2) == 0 ? anyYard() : model.roamed(random.nextLong(), n, true);
         int g = below(20) == 0 ? -1 : below((1 << model.count(1)) + (below(10) == 0 ? 1 : 0));
         int what = below(20) == 0 ? 2 - 3 * below(2) : below(2);
         String call = "game(" + n + ", " + y + ", " + g + ", " + what + ")";
