@@ -626,7 +626,7 @@ public final class FollowingCalf {
         }
 
         int cost(int i) {
-            return hasPerson(i) ? costs[i] : 0;
+            return i >= 0 && i < persons ? costs[i] : 0;
         }
 
         int distance(int from, int to) {
@@ -822,32 +822,18 @@ public final class FollowingCalf {
             count = 0;
         }
 
-        void putSum(int state, long number) {
-            if (enter(state, number)) {
-                numbers[state] += number;
-            }
-        }
-
-        void putLeast(int state, long number) {
-            if (enter(state, number) && number < numbers[state]) {
-                numbers[state] = number;
-            }
-        }
-
-        /** Whether the state was there already, so that two numbers are to be made one. */
-        private boolean enter(int state, long number) {
+        /** Two numbers for one state are made one: the lesser of them, or their sum. */
+        void put(int state, long number, boolean lesser) {
             if (state < 0 || state >= STATES) {
-                return false;
+                return;
             }
             if (numbers[state] != ABSENT) {
-                return true;
-            }
-            if (count < STATES) {
+                numbers[state] = lesser ? Math.min(numbers[state], number) : numbers[state] + number;
+            } else if (count < STATES) {
                 states[count] = state;
                 numbers[state] = number;
                 count++;
             }
-            return false;
         }
 
         void keepThoseAt(int yard) {
@@ -902,7 +888,7 @@ public final class FollowingCalf {
         /** Which of the goals bars all ways, or NONE. */
         int cheapest(Farm farm, Moment from, Told goals) {
             begin(BY_COST, NOBODY);
-            here.putLeast(from.state, 0);
+            here.put(from.state, 0, true);
             return follow(farm, from.minute, goals);
         }
 
@@ -917,7 +903,7 @@ public final class FollowingCalf {
         /** How many ways there are in which the person left out never feeds it. */
         long ways(Farm farm, Told sights, int personLeftOut) {
             begin(BY_COUNT, personLeftOut);
-            here.putSum(farm.firstState(), 1);
+            here.put(farm.firstState(), 1, false);
             follow(farm, 0, sights);
             return here.sum();
         }
@@ -925,7 +911,7 @@ public final class FollowingCalf {
         /** In how many of CASES to the power of n it is at the yard behind n minutes. */
         long weight(Farm farm, Moment from, int n, int yard) {
             begin(BY_CHANCE, NOBODY);
-            here.putSum(from.state, 1);
+            here.put(from.state, 1, false);
             for (int k = 0; k < n; k++) {
                 spread(farm, from.minute + k);
             }
@@ -979,21 +965,14 @@ public final class FollowingCalf {
         }
 
         private void branch(Farm farm, int state, long number, int minute) {
+            boolean lesser = kind == BY_COST;
             int feeders = kind == BY_CHANCE ? feedersOf(farm, state, minute) : 0;
-            put(farm.onward(state, minute + 1), whenUnfed(number, feeders));
+            next.put(farm.onward(state, minute + 1), whenUnfed(number, feeders), lesser);
             for (int i = 0; i < farm.persons(); i++) {
                 if (i != leftOut && farm.canFeed(i, state, minute)) {
                     int later = farm.onward(fedState(state, i), minute + 1);
-                    put(later, whenFed(farm, number, i, feeders));
+                    next.put(later, whenFed(farm, number, i, feeders), lesser);
                 }
-            }
-        }
-
-        private void put(int state, long number) {
-            if (kind == BY_COST) {
-                next.putLeast(state, number);
-            } else {
-                next.putSum(state, number);
             }
         }
 
