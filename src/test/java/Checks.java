@@ -2,12 +2,31 @@
 final class Checks {
     private int made;
     private int wrong;
+    private int sentences;
+    private int madeAhead;
+    private String sentence = "";
+
+    /** The checks from here on are those of this sentence of the document. */
+    void says(String words) {
+        endSentence();
+        sentence = words;
+        sentences++;
+        madeAhead = made;
+    }
+
+    private void endSentence() {
+        if (sentences > 0 && made == madeAhead) {
+            wrong++;
+            System.out.println("no check stands for: " + sentence);
+        }
+    }
 
     void due(String what, long got, long want) {
         made++;
         if (got != want) {
             wrong++;
-            System.out.println(what + " answered " + got + ", due is " + want);
+            String told = sentence.isEmpty() ? "" : " (\"" + sentence + "\")";
+            System.out.println(what + " answered " + got + ", due is " + want + told);
         }
     }
 
@@ -34,8 +53,21 @@ final class Checks {
         return x;
     }
 
+    /** Passes minutes up to the one that is told, by as few calls as can be. */
+    static FollowingCalf at(FollowingCalf x, int minute) {
+        while (x.count(2) < minute) {
+            int n = Math.min(99, minute - x.count(2));
+            if (x.pass(n) < 0) {
+                throw new IllegalStateException("pass(" + n + ") is refused at minute " + x.count(2));
+            }
+        }
+        return x;
+    }
+
     void end(String name) {
-        System.out.println(name + ": " + made + " checks, " + wrong + " wrong");
+        endSentence();
+        String told = sentences > 0 ? sentences + " sentences, " : "";
+        System.out.println(name + ": " + told + made + " checks, " + wrong + " wrong");
         if (wrong != 0) {
             System.exit(1);
         }
