@@ -55,11 +55,13 @@ final class Checks {
 
     /** Passes minutes up to the one that is told, by as few calls as can be. */
     static FollowingCalf at(FollowingCalf x, int minute) {
-        while (x.count(2) < minute) {
-            int n = Math.min(99, minute - x.count(2));
+        int now = x.count(2);
+        while (now < minute) {
+            int n = Math.min(99, minute - now);
             if (x.pass(n) < 0) {
-                throw new IllegalStateException("pass(" + n + ") is refused at minute " + x.count(2));
+                throw new IllegalStateException("pass(" + n + ") is refused at minute " + now);
             }
+            now += n;
         }
         return x;
     }

@@ -37,7 +37,7 @@ public final class RoomTest {
 
     private static long everyCall(FollowingCalf x) {
         long sum = x.fault() + x.lay() + x.far(0, 4) + x.person(0, 5);
-        for (int k = 0; k < 20; k++) {
+        for (int k = 0; k < 15; k++) {
             sum += x.feed(k % 5) + x.pass(1) + x.calf(400, 0) + x.goal(0, 2 * k) + x.seen(0, k);
             sum += x.price() + x.first() + x.bars() + x.game(12, 0, k, 1) + x.how() + x.sure(1);
             sum += x.chance(1, 6, 0) + x.year(k, 400, 1) + x.keep() + x.count(k);
