@@ -651,6 +651,16 @@ public final class FollowingCalf {
             return i >= 0 && i < persons && yardAt(i, minute) == yardOf(state);
         }
 
+        int feedersAt(int yard, int minute) {
+            int feeders = 0;
+            for (int i = 0; i < persons; i++) {
+                if (yardAt(i, minute) == yard) {
+                    feeders++;
+                }
+            }
+            return feeders;
+        }
+
         /** All states on this farm are below this. */
         int states() {
             return Math.max(forgetting, 1) * FOLLOWINGS * MOST_YARDS;
@@ -966,7 +976,7 @@ public final class FollowingCalf {
 
         private void branch(Farm farm, int state, long number, int minute) {
             boolean lesser = kind == BY_COST;
-            int feeders = kind == BY_CHANCE ? feedersOf(farm, state, minute) : 0;
+            int feeders = kind == BY_CHANCE ? farm.feedersAt(yardOf(state), minute) : 0;
             next.put(farm.onward(state, minute + 1), whenUnfed(number, feeders), lesser);
             for (int i = 0; i < farm.persons(); i++) {
                 if (i != leftOut && farm.canFeed(i, state, minute)) {
@@ -988,16 +998,6 @@ public final class FollowingCalf {
                 return number + farm.cost(feeder) * FEEDERS + (opening ? feeder + 1 : 0);
             }
             return feeders > 0 ? number * (CASES / 2 / feeders) : number;
-        }
-
-        private int feedersOf(Farm farm, int state, int minute) {
-            int feeders = 0;
-            for (int i = 0; i < farm.persons(); i++) {
-                if (farm.canFeed(i, state, minute)) {
-                    feeders++;
-                }
-            }
-            return feeders;
         }
     }
 

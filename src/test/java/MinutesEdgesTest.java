@@ -201,6 +201,13 @@ public final class MinutesEdgesTest {
             due("it follows him: " + n, x.calf(0, 1), 0);
         }
         due("now they do", x.pass(1), 1);
+        FollowingCalf away = checks.laid("y6;l0,1;l1,2;l4,5;p1;w012544;");
+        away.feed(0);
+        due("it is not where it was at first", away.pass(2), 2);
+        for (int n = 1; n <= 3; n++) {
+            due("it stays there, since no LANES lead to him: " + n, away.pass(1), 2);
+        }
+        due("towards him, when they do", away.pass(1), 1);
         FollowingCalf none = checks.laid("p1;w0123;");
         none.feed(0);
         due("no LANES at all", none.calf(1, 0), 0);
